@@ -587,6 +587,10 @@ public final class TraceTrees {
             return nearest(v < 0 ? SIGN : 0, Math.abs(v), -2);
         }
 
+        static int ofRegister(int kind, int bits) {
+            return kind == FLOAT ? bits : nearest(bits & SIGN, Math.abs((long) bits), 0);
+        }
+
         static int sum(int p, int q) {
             if (isNan(p) || isNan(q)) {
                 return NAN;
@@ -597,11 +601,15 @@ public final class TraceTrees {
             if (isInfinite(q)) {
                 return q;
             }
-            return scale(p) >= scale(q) ? finiteSum(p, q) : finiteSum(q, p);
-        }
-
-        static int difference(int p, int q) {
-            return sum(p, q ^ SIGN);
+            boolean pIsCoarse = scale(p) >= scale(q);
+            int coarse = pIsCoarse ? p : q;
+            int fine = pIsCoarse ? q : p;
+            int apart = scale(coarse) - scale(fine);
+            int shift = Math.min(apart, FAR);
+            long small = apart > FAR ? Long.signum(signed(fine)) : signed(fine);
+            long total = (signed(coarse) << shift) + small;
+            int sign = total == 0 ? p & q & SIGN : total < 0 ? SIGN : 0;
+            return nearest(sign, Math.abs(total), scale(coarse) - shift);
         }
 
         static int product(int p, int q) {
@@ -612,7 +620,11 @@ public final class TraceTrees {
             if (isInfinite(p) || isInfinite(q)) {
                 return isZero(p) || isZero(q) ? NAN : sign | INFINITE;
             }
-            return nearest(sign, fraction(p) * fraction(q), scale(p) + scale(q));
+            return nearest(sign, Math.abs(signed(p) * signed(q)), scale(p) + scale(q));
+        }
+
+        static int opposite(int p) {
+            return p ^ SIGN;
         }
 
         static boolean isLess(int p, int q) {
@@ -641,48 +653,41 @@ public final class TraceTrees {
             return Math.max(exponent, 1) - 1 + LEAST_SCALE;
         }
 
-        private static long fraction(int p) {
-            return (p & INFINITE) == 0 ? p & FRACTION : (p & FRACTION) | HIDDEN_BIT;
-        }
-
-        private static int finiteSum(int coarse, int fine) {
-            int apart = scale(coarse) - scale(fine);
-            int shift = Math.min(apart, FAR);
-            long small = fine < 0 ? -fraction(fine) : fraction(fine);
-            long large = (coarse < 0 ? -fraction(coarse) : fraction(coarse)) << shift;
-            long total = large + (apart > FAR ? Long.signum(small) : small);
-            int sign = total < 0 ? SIGN : 0;
-            if (total == 0) {
-                sign = coarse & fine & SIGN;
+        /** A finite float is this many times 2 to the power scale. */
+        private static long signed(int p) {
+            long fraction = p & FRACTION;
+            if ((p & INFINITE) != 0) {
+                fraction += HIDDEN_BIT;
             }
-            return nearest(sign, Math.abs(total), scale(coarse) - shift);
+            return p < 0 ? -fraction : fraction;
         }
 
-        /** The float nearest to magnitude times 2 to the power scale, the even one of two. */
+        /** The float nearest to magnitude times 2 to the power scale, of two the even one. */
         private static int nearest(int sign, long magnitude, int scale) {
             if (magnitude == 0) {
                 return sign;
             }
             int length = 64 - Long.numberOfLeadingZeros(magnitude);
             int surplus = Math.max(length - FRACTION_BITS - 1, LEAST_SCALE - scale);
-            long kept = surplus > 0 ? withoutLowest(magnitude, surplus) : magnitude << -surplus;
             int above = scale + surplus - LEAST_SCALE;
             if (above >= INFINITE_FROM) {
                 return sign | INFINITE;
             }
-            // Added, not joined: a carry out of the fraction is to raise the exponent.
-            return sign | ((above << FRACTION_BITS) + (int) kept);
-        }
-
-        private static long withoutLowest(long magnitude, int surplus) {
+            // A shift by 63 or more would not leave 0, but all of these are far below the least half.
             if (surplus > 62) {
-                return 0;
+                return sign;
             }
-            long kept = magnitude >> surplus;
-            long rest = magnitude - (kept << surplus);
-            long half = 1L << (surplus - 1);
-            boolean up = rest > half || (rest == half && (kept & 1) == 1);
-            return up ? kept + 1 : kept;
+            long kept = magnitude << Math.max(-surplus, 0);
+            if (surplus > 0) {
+                kept = magnitude >> surplus;
+                long rest = magnitude - (kept << surplus);
+                long half = 1L << (surplus - 1);
+                if (rest > half || (rest == half && (kept & 1) == 1)) {
+                    kept++;
+                }
+            }
+            // Added, not joined: a carry out of the fraction has to raise the exponent.
+            return sign | ((above << FRACTION_BITS) + (int) kept);
         }
     }
 
@@ -739,17 +744,17 @@ public final class TraceTrees {
                 become(fits ? WHOLE : FLOAT, fits ? (int) exact : Floats.ofWhole(exact));
                 return;
             }
-            int y = asFloat(kindY, bitsY);
-            int z = asFloat(kindZ, bitsZ);
-            become(FLOAT, act == ADD ? Floats.sum(y, z)
-                    : act == SUB ? Floats.difference(y, z) : Floats.product(y, z));
+            int y = Floats.ofRegister(kindY, bitsY);
+            int z = Floats.ofRegister(kindZ, bitsZ);
+            become(FLOAT, act == MUL ? Floats.product(y, z)
+                    : Floats.sum(y, act == SUB ? Floats.opposite(z) : z));
         }
 
         private void halve(int bitsZ) {
             if (kindZ == WHOLE && (bitsZ & 1) == 0) {
                 become(WHOLE, bitsZ / 2);
             } else {
-                become(FLOAT, Floats.product(asFloat(kindZ, bitsZ), Floats.HALF));
+                become(FLOAT, Floats.product(Floats.ofRegister(kindZ, bitsZ), Floats.HALF));
             }
         }
 
@@ -757,11 +762,7 @@ public final class TraceTrees {
             if (kindY == WHOLE && kindZ == WHOLE) {
                 return bitsY < bitsZ;
             }
-            return Floats.isLess(asFloat(kindY, bitsY), asFloat(kindZ, bitsZ));
-        }
-
-        private static int asFloat(int kind, int bits) {
-            return kind == WHOLE ? Floats.ofWhole(bits) : bits;
+            return Floats.isLess(Floats.ofRegister(kindY, bitsY), Floats.ofRegister(kindZ, bitsZ));
         }
     }
 
@@ -815,10 +816,12 @@ public final class TraceTrees {
 
     /** The TRACES of a RUN, the RECORDING that may become one more, and how hot each POINT is. */
     private static final class Forest {
+        static final int BARRED_FROM = 2;
+
         final Trace[] traces = new Trace[MOST_TRACES];
         final int[] heat = new int[POINTS];
         final int[] drops = new int[POINTS];
-        final int[] root = new int[POINTS];
+        final Trace[] root = new Trace[POINTS];
         int size;
         int dropped;
         Trace recording;
@@ -832,7 +835,9 @@ public final class TraceTrees {
         void clear() {
             Arrays.fill(heat, 0);
             Arrays.fill(drops, 0);
-            Arrays.fill(root, NONE);
+            for (int point = 0; point < POINTS; point++) {
+                root[point] = null;
+            }
             size = 0;
             dropped = 0;
             recording = null;
@@ -846,16 +851,8 @@ public final class TraceTrees {
             return has(trace) && entry >= 0 && entry < traces[trace].size;
         }
 
-        Trace rootAt(int point) {
-            return has(root[point]) ? traces[root[point]] : null;
-        }
-
-        boolean isBarred(int head) {
-            return drops[head] >= 2;
-        }
-
         boolean mayRecord(int head) {
-            return size < MOST_TRACES && !isBarred(head);
+            return size < MOST_TRACES && drops[head] < BARRED_FROM;
         }
 
         void startRecording(int head, int stem, int stemEntry) {
@@ -868,7 +865,7 @@ public final class TraceTrees {
                 return;
             }
             if (recording.stem == NONE) {
-                root[recording.head] = recording.number;
+                root[recording.head] = recording;
             } else {
                 traces[recording.stem].branch[recording.stemEntry] = recording.number;
             }
@@ -892,8 +889,8 @@ public final class TraceTrees {
             }
             switch (what) {
                 case 0: return heat[point];
-                case 1: return isBarred(point) ? 1 : 0;
-                case 2: return root[point];
+                case 1: return drops[point] >= BARRED_FROM ? 1 : 0;
+                case 2: return root[point] == null ? NONE : root[point].number;
                 default: return BAD;
             }
         }
@@ -956,7 +953,7 @@ public final class TraceTrees {
         private void getReady() {
             judgeRecording();
             if (forest.recording == null && current == null) {
-                begin(forest.rootAt(point));
+                begin(forest.root[point]);
             }
             // No TRACE is left twice at one POINT, so MOST_TRACES exits are the most.
             for (int i = 0; i < MOST_TRACES && current != null && current.fails(at, program, effect); i++) {
@@ -973,7 +970,7 @@ public final class TraceTrees {
                 if (open.size > 0) {
                     forest.keep();
                 }
-            } else if (open.size >= MOST_ENTRIES || forest.rootAt(point) != null) {
+            } else if (open.size >= MOST_ENTRIES || forest.root[point] != null) {
                 forest.drop();
             }
         }
@@ -998,7 +995,7 @@ public final class TraceTrees {
                 forest.startRecording(left.head, left.number, entry);
                 judgeRecording();
                 if (forest.recording == null) {
-                    begin(forest.rootAt(point));
+                    begin(forest.root[point]);
                 }
             }
         }
@@ -1028,7 +1025,7 @@ public final class TraceTrees {
             if (current != null) {
                 at++;
                 if (at >= current.size) {
-                    begin(forest.rootAt(current.head));
+                    begin(forest.root[current.head]);
                 }
             } else if (open != null) {
                 if (jumpedBack && point != open.head) {
@@ -1041,7 +1038,7 @@ public final class TraceTrees {
 
         private void warm() {
             forest.heat[point]++;
-            if (forest.heat[point] == hot && forest.rootAt(point) == null && forest.mayRecord(point)) {
+            if (forest.heat[point] == hot && forest.root[point] == null && forest.mayRecord(point)) {
                 forest.startRecording(point, NONE, NONE);
             }
         }
