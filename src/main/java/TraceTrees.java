@@ -708,7 +708,6 @@ public final class TraceTrees {
             kindZ = now.kind[z];
             way = 0;
             jumps = false;
-            become(WHOLE, 0);
             if (act == SET) {
                 become(WHOLE, program.b[point]);
             } else if (act == COPY) {

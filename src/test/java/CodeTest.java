@@ -143,6 +143,12 @@ public final class CodeTest {
         DUE.is("8: c", x.code(2, 3), 7);
         put(x, 0, 2, 0, 0, 0, 0, 0, 24, 0, 0, 0, 0, 0, 0);
         DUE.is("8: up to the bad one", x.read(0), 1);
+        int[][] bad = {{10, 0, 0, 0}, {-1, 0, 0, 0}, {0, -1, 0, 0}, {0, 0, 30001, 0}, {0, 0, -30001, 0},
+            {0, 0, 0, 8}, {0, 0, 0, -1}};
+        for (int[] b : bad) {
+            put(x, 0, 2, b);
+            DUE.is("8: the first may not be", x.read(0), 0);
+        }
         put(x, 0, 0, 0, 0, 0);
         DUE.is("8: none is whole", x.read(0), 0);
         put(x, 0, 0);
