@@ -91,9 +91,9 @@ final class DigestEdges extends Edges {
         }
     }
 
-    /** An object is used for at most 512 calls: the last of them answers like one of a new object. */
+    /** The last of them answers like one of a new object; one behind it has to come back, whatever it answers. */
     private void lastCall() {
-        sentence("as longs that wrap");
+        sentence("An object is used for at most 512 calls after it has been made; what later calls answer is free.");
         TraceTrees x = loopInALoop();
         int calls = 5 + 3 + 1;
         for (; calls < 511; calls++) {
@@ -104,5 +104,7 @@ final class DigestEdges extends Edges {
             y.load(last % 8, last % 2, last);
         }
         is("call 512", x.digest(), y.digest());
+        x.add(SET, 0, 0, 0);
+        x.digest();
     }
 }

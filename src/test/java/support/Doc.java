@@ -5,27 +5,33 @@ import java.util.ArrayList;
 import java.util.Arrays;
 import java.util.List;
 
-/** The text of the document from its terms to its last promise, in lines put together. */
+/** The text of the document, from how long an object is used to the last promise, in lines put together. */
 final class Doc {
+    private static final Path PLACE = Path.of("../shared/DOC.md");
     /** A sign that the document does not have. */
     private static final char CUT = '|';
 
     private final String text;
 
     Doc() throws IOException {
-        String all = Files.readString(Path.of("../shared/DOC.md"));
-        int from = all.indexOf("## Terms");
+        String all = Files.readString(PLACE);
+        int from = all.indexOf("An object is used");
         int to = all.indexOf("## Not promised");
         if (from < 0 || to < from) {
             throw new IllegalStateException("the document has other sections");
         }
         text = all.substring(from, to)
+                .replaceAll("(?s)```java.*?```", "")
                 .replaceAll("(?m)^## .*$", "")
                 .replaceAll("(?m)^```.*$", "")
                 .replaceAll("(?m)^Ahead of the calls .*$", "")
                 .replaceAll("(?m)^`[^`]*`: ", "")
                 .replaceAll("=+ \\d ", "")
                 .replaceAll("\\s+", " ");
+    }
+
+    static boolean isThere() {
+        return Files.isReadable(PLACE);
     }
 
     boolean says(String quote) {
